@@ -1,9 +1,5 @@
-/** Each promise of the document on ordinary inputs, at the edges it names, and on wrong inputs. */
+/** Each promise of the document on ordinary inputs; BoundaryTest has the edges and the wrong inputs. */
 public final class PromiseTest {
-    private static final int[] NOT_KEYS = {-1, 256, -256, 257, 511, 65536, Integer.MIN_VALUE, Integer.MAX_VALUE};
-    private static final int[] NOT_SLOTS = {-1, -2, 7, 8, 255, Integer.MIN_VALUE, Integer.MAX_VALUE};
-    private static final int[] NOT_MAPS = {-2, -3, 7, 8, 255, Integer.MIN_VALUE, Integer.MAX_VALUE};
-
     private static int promise = 0;
     private static int wrong = 0;
 
@@ -17,35 +13,20 @@ public final class PromiseTest {
     public static void main(String[] args) {
         newObject();
         putOrdinary();
-        putWrongKeys();
-        putIntoFullMap();
-        putAnyValue();
         removeOrdinary();
-        removeWrongKeys();
-        removeMakesRoom();
         commitTakesLeastFreeSlot();
-        commitRefusedChangesNothing();
         snapshotsNeverChange();
         restoreOrdinary();
         restoreForgetsTheWorkingMap();
-        restoreRefusedChangesNothing();
         dropOrdinary();
-        dropRefused();
         dropLeavesTheRest();
         getOrdinary();
-        getNotHeldOrRefused();
         hasOrdinary();
-        hasWrongKeys();
         sizeOrdinary();
         nextOrdinary();
-        nextEdges();
         nextChangeOrdinary();
-        nextChangeEdges();
         changesOrdinary();
         changesOfRemovedKeys();
-        changesAtMost();
-        refusedMapsAnswerFirst();
-        objectsAreApart();
         System.out.println(wrong == 0 ? "all answers are as due" : wrong + " answers are not as due");
         if (wrong != 0) {
             System.exit(1);
@@ -102,49 +83,6 @@ public final class PromiseTest {
         due("size(-1)", tree.size(-1), 3);
     }
 
-    private static void putWrongKeys() {
-        promise = 2;
-        SnapshotTree tree = holding(3, 1);
-        tree.commit();
-        for (int key : NOT_KEYS) {
-            due("put(" + key + ", 1)", tree.put(key, 1), -1);
-        }
-        due("size(-1) after refused puts", tree.size(-1), 3);
-        due("changes(-1, 0) after refused puts", tree.changes(-1, 0), 0);
-        due("size(0) after refused puts", tree.size(0), 3);
-    }
-
-    private static void putIntoFullMap() {
-        promise = 2;
-        SnapshotTree tree = new SnapshotTree();
-        for (int i = 0; i < 16; i++) {
-            due("put(" + i * 17 + ", 1)", tree.put(i * 17, 1), i + 1);
-        }
-        tree.commit();
-        due("put(1, 1), 16 held", tree.put(1, 1), -1);
-        due("put(254, 1), 16 held", tree.put(254, 1), -1);
-        due("put(-1, 1), 16 held", tree.put(-1, 1), -1);
-        due("has(-1, 1)", tree.has(-1, 1), 0);
-        due("changes(-1, 0) after refused puts", tree.changes(-1, 0), 0);
-        due("put(0, 2), held among 16", tree.put(0, 2), 16);
-        due("put(255, 3), held among 16", tree.put(255, 3), 16);
-        due("get(-1, 0)", tree.get(-1, 0), 2);
-        due("get(-1, 255)", tree.get(-1, 255), 3);
-    }
-
-    private static void putAnyValue() {
-        promise = 2;
-        SnapshotTree tree = new SnapshotTree();
-        int[] values = {0, -1, 1, 255, 256, Integer.MIN_VALUE, Integer.MAX_VALUE};
-        for (int i = 0; i < values.length; i++) {
-            due("put(" + i + ", " + values[i] + ")", tree.put(i, values[i]), i + 1);
-        }
-        for (int i = 0; i < values.length; i++) {
-            due("get(-1, " + i + ")", tree.get(-1, i), values[i]);
-            due("has(-1, " + i + ")", tree.has(-1, i), 1);
-        }
-    }
-
     private static void removeOrdinary() {
         promise = 3;
         SnapshotTree tree = new SnapshotTree();
@@ -164,30 +102,6 @@ public final class PromiseTest {
         due("get(-1, 0) after put", tree.get(-1, 0), 0);
     }
 
-    private static void removeWrongKeys() {
-        promise = 3;
-        SnapshotTree empty = new SnapshotTree();
-        due("remove(0) from the empty map", empty.remove(0), -1);
-        SnapshotTree tree = holding(16, 17);
-        tree.commit();
-        for (int key : NOT_KEYS) {
-            due("remove(" + key + ")", tree.remove(key), -1);
-        }
-        due("remove(1), not held", tree.remove(1), -1);
-        due("size(-1) after refused removes", tree.size(-1), 16);
-        due("changes(-1, 0) after refused removes", tree.changes(-1, 0), 0);
-        due("size(0) after refused removes", tree.size(0), 16);
-    }
-
-    private static void removeMakesRoom() {
-        promise = 3;
-        SnapshotTree tree = holding(16, 1);
-        due("put(200, 1), 16 held", tree.put(200, 1), -1);
-        due("remove(3)", tree.remove(3), 15);
-        due("put(200, 1)", tree.put(200, 1), 16);
-        due("put(3, 1), 16 held", tree.put(3, 1), -1);
-    }
-
     private static void commitTakesLeastFreeSlot() {
         promise = 4;
         SnapshotTree tree = new SnapshotTree();
@@ -204,19 +118,6 @@ public final class PromiseTest {
         due("commit(), none free", tree.commit(), -1);
         tree.drop(0);
         due("commit(), 0 free", tree.commit(), 0);
-    }
-
-    private static void commitRefusedChangesNothing() {
-        promise = 4;
-        SnapshotTree tree = withAllSlotsTaken();
-        tree.put(50, 50);
-        due("commit(), none free", tree.commit(), -1);
-        due("size(-1)", tree.size(-1), 8);
-        due("get(-1, 50)", tree.get(-1, 50), 50);
-        for (int slot = 0; slot <= 6; slot++) {
-            due("size(" + slot + ")", tree.size(slot), slot + 1);
-            due("has(" + slot + ", 50)", tree.has(slot, 50), 0);
-        }
     }
 
     private static void snapshotsNeverChange() {
@@ -281,24 +182,6 @@ public final class PromiseTest {
         due("get(-1, 6)", full.get(-1, 6), 6);
     }
 
-    private static void restoreRefusedChangesNothing() {
-        promise = 5;
-        SnapshotTree tree = holding(4, 9);
-        tree.commit();
-        tree.put(1, 1);
-        tree.commit();
-        tree.put(2, 2);
-        tree.drop(0);
-        for (int slot : NOT_SLOTS) {
-            due("restore(" + slot + ")", tree.restore(slot), -1);
-        }
-        due("restore(0), dropped", tree.restore(0), -1);
-        due("restore(2), never taken", tree.restore(2), -1);
-        due("size(-1)", tree.size(-1), 6);
-        due("changes(-1, 1)", tree.changes(-1, 1), 1);
-        due("nextChange(-1, 1, 0)", tree.nextChange(-1, 1, 0), 2);
-    }
-
     private static void dropOrdinary() {
         promise = 6;
         SnapshotTree tree = withAllSlotsTaken();
@@ -310,17 +193,6 @@ public final class PromiseTest {
             due("restore(" + slot + ")", tree.restore(slot), -1);
         }
         due("commit() after all drops", tree.commit(), 0);
-    }
-
-    private static void dropRefused() {
-        promise = 6;
-        SnapshotTree tree = withAllSlotsTaken();
-        for (int slot : NOT_SLOTS) {
-            due("drop(" + slot + ")", tree.drop(slot), -1);
-        }
-        for (int map = -1; map <= 6; map++) {
-            due("size(" + map + ") after refused drops", tree.size(map), map == -1 ? 7 : map + 1);
-        }
     }
 
     private static void dropLeavesTheRest() {
@@ -355,27 +227,6 @@ public final class PromiseTest {
         }
     }
 
-    private static void getNotHeldOrRefused() {
-        promise = 7;
-        SnapshotTree tree = holding(16, 17);
-        tree.commit();
-        for (int key : NOT_KEYS) {
-            due("get(-1, " + key + ")", tree.get(-1, key), 0);
-            due("get(0, " + key + ")", tree.get(0, key), 0);
-        }
-        due("get(-1, 1), not held", tree.get(-1, 1), 0);
-        for (int map : NOT_MAPS) {
-            due("get(" + map + ", 0)", tree.get(map, 0), 0);
-        }
-        due("get(1, 0), free slot", tree.get(1, 0), 0);
-        tree.drop(0);
-        due("get(0, 0), dropped slot", tree.get(0, 0), 0);
-        tree.remove(17);
-        tree.commit();
-        due("get(-1, 17), removed", tree.get(-1, 17), 0);
-        due("get(0, 17), removed before the commit", tree.get(0, 17), 0);
-    }
-
     private static void hasOrdinary() {
         promise = 8;
         SnapshotTree tree = new SnapshotTree();
@@ -388,18 +239,6 @@ public final class PromiseTest {
         due("has(0, 0)", tree.has(0, 0), 1);
         due("has(0, 255)", tree.has(0, 255), 1);
         due("has(0, 254)", tree.has(0, 254), 0);
-    }
-
-    private static void hasWrongKeys() {
-        promise = 8;
-        SnapshotTree tree = holding(16, 17);
-        tree.commit();
-        tree.commit();
-        for (int key : NOT_KEYS) {
-            due("has(-1, " + key + ")", tree.has(-1, key), 0);
-            due("has(0, " + key + ")", tree.has(0, key), 0);
-            due("has(1, " + key + ")", tree.has(1, key), 0);
-        }
     }
 
     private static void sizeOrdinary() {
@@ -416,9 +255,6 @@ public final class PromiseTest {
         due("size(-1)", tree.size(-1), 15);
         due("size(0)", tree.size(0), 16);
         due("size(1), free", tree.size(1), -1);
-        for (int map : NOT_MAPS) {
-            due("size(" + map + ")", tree.size(map), -1);
-        }
         tree.drop(0);
         due("size(0), dropped", tree.size(0), -1);
         SnapshotTree full = withAllSlotsTaken();
@@ -441,27 +277,6 @@ public final class PromiseTest {
         due("next(0, 4)", tree.next(0, 4), 70);
         due("next(0, 71)", tree.next(0, 71), 200);
         due("next(0, 201)", tree.next(0, 201), 256);
-    }
-
-    private static void nextEdges() {
-        promise = 10;
-        SnapshotTree tree = new SnapshotTree();
-        due("next(-1, 0), empty", tree.next(-1, 0), 256);
-        tree.put(0, 1);
-        tree.put(255, 1);
-        tree.commit();
-        tree.commit();
-        for (int map = -1; map <= 1; map++) {
-            due("next(" + map + ", MIN)", tree.next(map, Integer.MIN_VALUE), 0);
-            due("next(" + map + ", -257)", tree.next(map, -257), 0);
-            due("next(" + map + ", -1)", tree.next(map, -1), 0);
-            due("next(" + map + ", 0)", tree.next(map, 0), 0);
-            due("next(" + map + ", 1)", tree.next(map, 1), 255);
-            due("next(" + map + ", 255)", tree.next(map, 255), 255);
-            due("next(" + map + ", 256)", tree.next(map, 256), 256);
-            due("next(" + map + ", 257)", tree.next(map, 257), 256);
-            due("next(" + map + ", MAX)", tree.next(map, Integer.MAX_VALUE), 256);
-        }
     }
 
     private static void nextChangeOrdinary() {
@@ -487,27 +302,6 @@ public final class PromiseTest {
         due("nextChange(-1, 1, 0), the same", tree.nextChange(-1, 1, 0), 256);
         due("nextChange(-1, -1, 0)", tree.nextChange(-1, -1, 0), 256);
         due("nextChange(0, 0, 0)", tree.nextChange(0, 0, 0), 256);
-    }
-
-    private static void nextChangeEdges() {
-        promise = 11;
-        SnapshotTree tree = new SnapshotTree();
-        tree.commit();
-        tree.put(0, 0);
-        tree.put(255, 0);
-        due("nextChange(-1, 0, MIN)", tree.nextChange(-1, 0, Integer.MIN_VALUE), 0);
-        due("nextChange(-1, 0, -1)", tree.nextChange(-1, 0, -1), 0);
-        due("nextChange(-1, 0, 1)", tree.nextChange(-1, 0, 1), 255);
-        due("nextChange(0, -1, 255)", tree.nextChange(0, -1, 255), 255);
-        due("nextChange(0, -1, 256)", tree.nextChange(0, -1, 256), 256);
-        due("nextChange(0, -1, MAX)", tree.nextChange(0, -1, Integer.MAX_VALUE), 256);
-        tree.remove(0);
-        tree.remove(255);
-        due("nextChange(-1, 0, 0), put and removed", tree.nextChange(-1, 0, 0), 256);
-        tree.put(9, Integer.MIN_VALUE);
-        tree.commit();
-        tree.put(9, Integer.MAX_VALUE);
-        due("nextChange(1, -1, 0), the values' ends", tree.nextChange(1, -1, 0), 9);
     }
 
     private static void changesOrdinary() {
@@ -546,52 +340,5 @@ public final class PromiseTest {
         tree.remove(6);
         tree.put(6, 0);
         due("changes(-1, 1), removed and put", tree.changes(-1, 1), 0);
-    }
-
-    private static void changesAtMost() {
-        promise = 12;
-        SnapshotTree tree = holding(16, 1);
-        tree.commit();
-        for (int i = 0; i < 16; i++) {
-            tree.remove(i);
-        }
-        for (int i = 0; i < 16; i++) {
-            tree.put(240 + i, 1);
-        }
-        due("changes(-1, 0), no key in both", tree.changes(-1, 0), 32);
-        due("nextChange(-1, 0, 16)", tree.nextChange(-1, 0, 16), 240);
-    }
-
-    private static void refusedMapsAnswerFirst() {
-        promise = 13;
-        SnapshotTree tree = holding(16, 17);
-        tree.commit();
-        tree.commit();
-        tree.drop(0);
-        int[] tried = {0, 17, 255, -1, 256, Integer.MIN_VALUE, Integer.MAX_VALUE};
-        int[] refused = {0, 2, 6, -2, 7, Integer.MIN_VALUE, Integer.MAX_VALUE};
-        for (int map : refused) {
-            for (int from : tried) {
-                due("has(" + map + ", " + from + ")", tree.has(map, from), -1);
-                due("next(" + map + ", " + from + ")", tree.next(map, from), -1);
-                due("nextChange(" + map + ", -1, " + from + ")", tree.nextChange(map, -1, from), -1);
-                due("nextChange(1, " + map + ", " + from + ")", tree.nextChange(1, map, from), -1);
-                due("nextChange(" + map + ", same, " + from + ")", tree.nextChange(map, map, from), -1);
-            }
-            due("changes(" + map + ", -1)", tree.changes(map, -1), -1);
-            due("changes(1, " + map + ")", tree.changes(1, map), -1);
-            due("changes(" + map + ", same)", tree.changes(map, map), -1);
-        }
-    }
-
-    private static void objectsAreApart() {
-        promise = 1;
-        SnapshotTree first = holding(3, 1);
-        first.commit();
-        SnapshotTree second = new SnapshotTree();
-        due("size(-1) of a second object", second.size(-1), 0);
-        due("size(0) of a second object", second.size(0), -1);
-        second.put(9, 9);
-        due("has(-1, 9) of the first object", first.has(-1, 9), 0);
     }
 }
